@@ -33,6 +33,7 @@ public final class RegrowDesk {
     private static final int INT = 1;
     private static final int END = 10;
     private static final int BAD = 11;
+    private static final int START_KIND = 12;
     /** A KIND's symbol is behind those of the RULES. */
     private static final int KIND_SYMBOL = 5;
     private static final int SYMBOLS = 17;
@@ -79,6 +80,11 @@ public final class RegrowDesk {
         0, -1, 1, -1, 0, -1, -1, -1, 5, 7, 8, 9, -1, 3, 2, -1, -1, -1, 4, 6, 10
     };
     private static final int[] RULE_SYMBOL = {0, 0, 1, 1, 2, 2, 3, 3, 4, 4, 4};
+    /** By KIND, the KINDS (bits) that can be right behind it in a good text; last, behind nothing. */
+    private static final int[] FOLLOWERS = {
+        0b00010111100, 0b00010111000, 0b00001000011, 0b11100000001, 0b00001000011, 0b00001000011,
+        0b00001000011, 0b00010111000, 0b01100000001, 0b11100000001, 0, 0, 0b10100000001
+    };
     private static final int[] RULE_LENGTH = {0, 2, 4, 3, 3, 1, 3, 1, 1, 1, 3};
 
     private final Row tape = new Row(MOST_TAPE);
@@ -639,6 +645,10 @@ public final class RegrowDesk {
         return rule >= 0 && rule < RULE_LENGTH.length ? RULE_LENGTH[rule] : 0;
     }
 
+    private static boolean fits(int kind, int behind) {
+        return kind >= 0 && kind < FOLLOWERS.length && (FOLLOWERS[kind] >> behind & 1) == 1;
+    }
+
     /** Numbers in a row, each looked for only where it can be. */
     private static final class Row {
         private final int[] cells;
@@ -668,8 +678,9 @@ public final class RegrowDesk {
         }
 
         void copyFrom(Row row, int many) {
-            for (int i = 0; i < many; i++) {
-                set(i, row.get(i));
+            int both = Math.min(many, Math.min(cells.length, row.cells.length));
+            if (both > 0) {
+                System.arraycopy(row.cells, 0, cells, 0, both);
             }
         }
     }
@@ -1100,7 +1111,8 @@ public final class RegrowDesk {
         }
 
         boolean readsName(int node) {
-            for (int at = place.get(node); at < placeBehind(node); at++) {
+            int behind = placeBehind(node);
+            for (int at = place.get(node); at < behind; at++) {
                 if (nodes.rule.get(order.get(at)) == RULE_READ) {
                     return true;
                 }
@@ -1111,7 +1123,8 @@ public final class RegrowDesk {
         /** Ahead of the first EDIT there is none that could have made any. */
         int madeWithin(int node, int edit) {
             int made = 0;
-            for (int at = place.get(node); at < placeBehind(node); at++) {
+            int behind = placeBehind(node);
+            for (int at = place.get(node); at < behind; at++) {
                 if (edit > 0 && nodes.madeBy.get(order.get(at)) == edit) {
                     made++;
                 }
@@ -1421,16 +1434,15 @@ public final class RegrowDesk {
                 case RULE_MULTIPLY: return worths.get(one) * worths.get(other);
                 case RULE_SUM_IS:
                 case RULE_PRODUCT_IS: return worths.get(one);
-                case RULE_READ: return valueOf(view.firstToken.get(at));
-                case RULE_INT: return numberOf(view.order.get(one));
+                case RULE_READ: return values.get(nameOf.get(view.firstToken.get(at)));
+                case RULE_INT: return numberOf(nodes.head.get(view.order.get(one)));
                 case RULE_WITHIN: return worths.get(one + 1);
                 default: return 0;
             }
         }
 
         /** An INT has four digits at most, so all of them are in the head. */
-        private int numberOf(int token) {
-            int digits = nodes.head.get(token);
+        private static int numberOf(int digits) {
             int number = 0;
             for (int shift = 24; shift >= 0; shift -= 8) {
                 int digit = (digits >>> shift) & 255;
@@ -1618,23 +1630,61 @@ public final class RegrowDesk {
         /** Has put the tokens ahead of a place. */
         private final Trial ahead = new Trial();
         private final Trial trial = new Trial();
+        private final Row balance = new Row(MOST_TOKENS + 1);
         int foundAt;
         int foundWhat;
 
         void findWay(Tokens tokens) {
+            weigh(tokens);
+            int misfit = lastMisfit(tokens);
             for (int many = 1; many < tokens.many; many++) {
                 ahead.begin();
                 boolean goesOn = true;
                 for (int at = 0; goesOn && at + many < tokens.many; at++) {
-                    trial.copyFrom(ahead);
-                    if (trial.acceptsFrom(tokens, at + many)) {
-                        found(at, many);
-                        return;
+                    if (at + many > misfit && couldGo(tokens, at, many)) {
+                        trial.copyFrom(ahead);
+                        if (trial.acceptsFrom(tokens, at + many)) {
+                            found(at, many);
+                            return;
+                        }
                     }
                     goesOn = ahead.accepts(tokens.kind.get(at));
                 }
             }
             found(ABSENT, ABSENT);
+        }
+
+        /** Growing on from each place for each length would take long: most can be told not to at a glance. */
+        private boolean couldGo(Tokens tokens, int at, int many) {
+            boolean balanced = balance.get(at + many) - balance.get(at) == balance.get(tokens.many);
+            int kindAhead = at == 0 ? START_KIND : tokens.kind.get(at - 1);
+            return balanced && fits(kindAhead, tokens.kind.get(at + many));
+        }
+
+        /** Round brackets open ahead of each token, and curly ones, which weigh more than all round ones. */
+        private void weigh(Tokens tokens) {
+            int sum = 0;
+            for (int i = 0; i < tokens.many; i++) {
+                balance.set(i, sum);
+                switch (tokens.kind.get(i)) {
+                    case 6: sum++; break;
+                    case 7: sum--; break;
+                    case 8: sum += 1000; break;
+                    case 9: sum -= 1000; break;
+                    default: break;
+                }
+            }
+            balance.set(tokens.many, sum);
+        }
+
+        /** The last token that the one behind it never follows in a good text; what goes must reach that far. */
+        private static int lastMisfit(Tokens tokens) {
+            for (int i = tokens.many - 2; i >= 0; i--) {
+                if (!fits(tokens.kind.get(i), tokens.kind.get(i + 1))) {
+                    return i;
+                }
+            }
+            return -1;
         }
 
         void findMend(Tokens tokens) {
