@@ -359,11 +359,9 @@ public final class RegrowDesk {
         if (!now.hasGood(i) || !now.hasGood(k)) {
             return NONE;
         }
+        // END is not in the TREE, so nothing is found above it.
         int node = now.goodNode.get(i);
-        if (i == k) {
-            return node;
-        }
-        return k == now.goodMany - 1 ? ABSENT : view.lowestOver(node, k);
+        return i == k ? node : view.lowestOver(node, k);
     }
 
     public int path(int i, int k) {

@@ -224,11 +224,33 @@ public final class OracleTest {
         askAll();
     }
 
+    /** Texts of tokens thrown together, and good ones with a few tokens changed, for what is told of wrong ones. */
+    private void adviseOnSoup(int texts) {
+        String[] signs = {"a", "b", "1", "=", ";", "+", "*", "(", ")", "{", "}", "#", "a=1;", "(b)", "{}"};
+        for (int i = 0; i < texts && wrong < 20; i++) {
+            boolean spoilt = random.nextInt(3) > 0;
+            StringBuilder s = new StringBuilder();
+            int pieces = upTo(spoilt ? 14 : 9);
+            for (int k = 0; k < pieces && s.length() < 160; k++) {
+                s.append(spoilt ? PIECES[upTo(PIECES.length)] : signs[upTo(signs.length)]).append(' ');
+            }
+            for (int k = upTo(4); spoilt && k > 0; k--) {
+                int at = upTo(s.length() + 1);
+                s.replace(at, Math.min(s.length(), at + upTo(3)), signs[upTo(signs.length)]);
+            }
+            put(s.toString());
+            edit(0, oracle.textNow().length());
+            askSome();
+            story.clear();
+        }
+    }
+
     public static void main(String[] args) {
         int runs = args.length > 0 ? Integer.parseInt(args[0]) : 60;
         int from = args.length > 1 ? Integer.parseInt(args[1]) : 0;
         for (int seed = from; seed < from + runs && wrong < 20; seed++) {
             new OracleTest(seed).runThrough(seed % 5 == 0 ? 200 : 60);
+            new OracleTest(seed).adviseOnSoup(40);
         }
         System.out.println("OracleTest: " + calls + " calls, " + wrong + " not as due");
         if (wrong != 0) {

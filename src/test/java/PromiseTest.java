@@ -272,6 +272,11 @@ public final class PromiseTest {
         due(12, "what 3", x.token(0, 3), NONE);
         due(12, "what -1", x.token(0, -1), NONE);
         due(12, "far", x.token(FAR, DEEP), NONE);
+        RegrowDesk y = Typist.deskOf("az`{:09/");
+        int[] edges = {0, 11, 8, 11, 1, 11, 10};
+        for (int i = 0; i < edges.length; i++) {
+            due(12, "first and last letters and digits " + i, y.token(i, 0), edges[i]);
+        }
         due(12, "exactly 8 and 4", Typist.deskOf("abcdefgh=1234;").count(1), 5);
     }
 
