@@ -147,7 +147,11 @@ public final class EdgeAnswerTest {
         each("the first L, what", w -> x.node(1, w), 0, 0, 0, 0, 0, 0, 0, -2, -2);
         each("L from nothing there, what", w -> x.node(18, w), 0, 0, 0, 0, 0, 2, 1, 20, -2);
         each("last token, what", w -> x.node(17, w), -2, 8, 0, 7, 1, 2, 1, 27, 9);
+        each("in the TREE or END", n -> x.node(n, 6), 1, 0, 1, 1, 1, 1, 0, 1, 1, 1, 0, 0, 1, 1, 1, 1, 1, 1, 1, 1, 1, 1, 1,
+                1, 1, 1, 1, 1, 1, -1000);
         x.undo();
+        each("in the TREE or END then", n -> x.node(n, 6), 1, 0, 1, 1, 1, 1, 1, 1, 1, 1, 1, 1, 0, 0, 0, 0, 0, 0, 0, 0, 0,
+                0, 0, 0, 0, 0, 0, 0, 0, -1000);
         each("not yet, what", w -> x.node(28, w), 1, 0, 2, 0, 10, 2, 0, -2, -2);
         each("the TREE again, what", w -> x.node(11, w), 1, 0, 2, 0, 4, 1, 1, -2, 0);
         each("END, what", w -> x.node(0, w), -2, 15, 0, -2, 1, 0, 1, -2, 4);

@@ -100,6 +100,19 @@ public final class EdgeChangeTest {
         kindsOf("abcdefgh\u00e9i", "0@0+8 11@8+1 0@9+1 ");
     }
 
+    /** A token ends where the TEXT ends, though there were more letters, or digits, there. */
+    private static void endOfText() {
+        RegrowDesk x = Typist.deskOf("abcdefgh");
+        due("one letter less", Typist.edit(x, 7, 1, "") * 10 + x.token(0, 2), 17);
+        due("one letter", Typist.edit(x, 1, 6, "") * 10 + x.token(0, 2), 11);
+        due("one more", Typist.edit(x, 1, 0, "z") * 10 + x.token(0, 2), 12);
+        RegrowDesk y = Typist.deskOf("abcdefghi");
+        due("one letter less", Typist.edit(y, 8, 1, "") * 100 + y.token(0, 0) * 10 + y.token(0, 2), 108);
+        RegrowDesk z = Typist.deskOf("12345");
+        due("one digit less", Typist.edit(z, 4, 1, "") * 100 + z.token(0, 0) * 10 + z.token(0, 2), 114);
+        due("one digit", Typist.edit(z, 1, 3, "") * 10 + z.token(0, 2), 11);
+    }
+
     private static void kindsOf(String text, String want) {
         RegrowDesk x = Typist.deskOf(text);
         StringBuilder s = new StringBuilder();
@@ -665,6 +678,7 @@ public final class EdgeChangeTest {
         threeHundredByRename();
         threeHundredByTwin();
         longTokens();
+        endOfText();
         eachByte();
         hundredTokens();
         atFirst();
