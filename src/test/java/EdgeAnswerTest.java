@@ -162,6 +162,23 @@ public final class EdgeAnswerTest {
         each("END alone, what", w -> x.node(0, w), -2, 15, 0, -2, 1, 0, 1, -2, 0);
     }
 
+    /** A node of a TREE that is gone is in none, wherever it was there. */
+    private static void inNoTree() {
+        RegrowDesk x = Typist.deskOf("a=1;");
+        int nodes = x.count(5);
+        Typist.edit(x, 0, 4, "b=(2+3)*4{");
+        Typist.edit(x, 9, 1, ";");
+        int all = x.count(5);
+        x.undo();
+        x.undo();
+        for (int n = nodes; n < all; n++) {
+            due("gone: " + n, x.node(n, 6) + " " + x.node(n, 7) + " " + x.node(n, 8), "0 -2 -2");
+            due("gone, worth: " + n, x.worth(n), 0);
+            due("gone, span: " + n, x.span(n, 0), NONE);
+            due("gone, beside: " + n, x.beside(n), ABSENT);
+        }
+    }
+
     private static void besideAndBefore() {
         RegrowDesk x = two();
         int[] behind = {13, 26, 17};
@@ -649,6 +666,7 @@ public final class EdgeAnswerTest {
         goodBehindWrong();
         nodes();
         inTheTree();
+        inNoTree();
         besideAndBefore();
         last();
         doneAgain();
