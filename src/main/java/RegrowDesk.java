@@ -1503,8 +1503,9 @@ public final class RegrowDesk {
         }
 
         static int depthOf(int runMany) {
+            // The first half is rounded up, so what PAIRS of a depth can have doubles with each one.
             int depth = 0;
-            for (int part = runMany; part > 1; part = (part + 1) / 2) {
+            while (depth < 30 && 1 << depth < runMany) {
                 depth++;
             }
             return depth;
